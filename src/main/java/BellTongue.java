@@ -497,7 +497,7 @@ public final class BellTongue {
             case 1:
                 return Integer.bitCount(roundOf(word));
             case 2:
-                return Integer.numberOfTrailingZeros(roundOf(word));
+                return lowestOf(roundOf(word));
             default:
                 return NONE;
         }
@@ -656,6 +656,10 @@ public final class BellTongue {
 
     private static boolean within(int value, int low, int high) {
         return value >= low && value <= high;
+    }
+
+    private static int lowestOf(int bits) {
+        return Integer.bitCount((bits & -bits) - 1);
     }
 
     private static long commonDivisor(long one, long other) {
@@ -1078,6 +1082,7 @@ public final class BellTongue {
         private int toldSoFar;
         private final int[] whats = new int[MOST_CLAUSES];
         private final int[] numbers = new int[MOST_CLAUSES * MOST_TOLD];
+        boolean asksPlace;
         int size;
         final int[] code = new int[MOST_BYTES];
         final int[] from = new int[LAWS];
@@ -1085,6 +1090,7 @@ public final class BellTongue {
 
         void clear() {
             clauses = 0;
+            asksPlace = false;
             size = 0;
             Arrays.fill(from, 0);
             Arrays.fill(till, 0);
@@ -1101,7 +1107,9 @@ public final class BellTongue {
             whats[clauses] = what;
             toldSoFar = clauses * MOST_TOLD;
             clauses++;
-            Arrays.fill(numbers, toldSoFar, clauses * MOST_TOLD, NONE);
+            for (int i = toldSoFar; i < clauses * MOST_TOLD; i++) {
+                numbers[i] = NONE;
+            }
         }
 
         void tell(int number) {
@@ -1161,9 +1169,7 @@ public final class BellTongue {
 
         private static final int CELL = 8;
         /** Cells of eight signs each: those that start a CLAUSE first, laws ahead of all. */
-        private static final String KEYWORDS = "over    follows begins  bell    word    "
-                + "ring    speak   wind    frost   hour    sunday  pitch   men     means   "
-                + "or      and     not     loud    strokes kind    next    meaning place   ";
+        private static final String KEYWORDS = "over    follows begins  bell    word    ring    speak   wind    frost   hour    sunday  pitch   men     means   or      and     not     loud    strokes kind    next    meaning place   ";
         private static final String SYMBOLS = "<>=#+-*/^():;";
 
         private static final int BLANK = 0;
@@ -1500,6 +1506,7 @@ public final class BellTongue {
             } else if ((bit & namesOf(law)) == 0) {
                 fail(5);
             } else {
+                text.asksPlace |= token == Tape.PLACE;
                 putValue(token);
             }
         }
@@ -1666,7 +1673,9 @@ public final class BellTongue {
                 return true;
             }
             int first = ahead == NONE ? word : ahead;
-            int at = (place * MOST_WORDS + first) * MOST_WORDS + word;
+            // a law that doesn't ask for the place need not be asked again at each
+            int asked = text.asksPlace ? place : Math.min(place, 1);
+            int at = (asked * MOST_WORDS + first) * MOST_WORDS + word;
             if (at < 0 || at >= found.length) {
                 return false;
             }
@@ -1759,7 +1768,7 @@ public final class BellTongue {
             if (y < 0) {
                 return 0;
             }
-            int times = Math.min(y, 99);
+            int times = y > 99 ? 99 : y;
             if (times > 22) {
                 times = 22 - times % 2;
             }
@@ -1861,7 +1870,7 @@ public final class BellTongue {
 
         private void layWords() {
             Lexicon lexicon = world.lexicon;
-            Arrays.fill(reached, 0, count + 1, 0);
+            Arrays.fill(reached, 0);
             reached[0] = 1;
             for (int place = 0; place <= count; place++) {
                 fits[place] = 0;
