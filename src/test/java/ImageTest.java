@@ -17,6 +17,7 @@ public final class ImageTest {
         x.bell(9, 5, 2);
         x.word(0, 1, -1, -1, 1, 10);
         x.word(1, -1, -1, -1, 2, 20);
+        x.word(0, -1, -1, -1, 0, 30);
         x.hands(7);
         Due.read(x, "over bell#1;");
         x.by(0);
@@ -30,6 +31,7 @@ public final class ImageTest {
         x.hears(0, 1);
         x.line(0, 1);
         x.tower(0, 0);
+        x.tower(1, 0);
         x.tower(1, 1);
         return x;
     }
@@ -74,10 +76,13 @@ public final class ImageTest {
         x.weight(0, 99);
         x.hears(1, 0);
         x.line(-1, 0);
-        x.line(1, 1);
         x.line(1, 0);
-        x.tower(0, 1);
-        x.tower(1, -1);
+        x.line(1, 0);
+        for (int tower = 0; tower < 2; tower++) {
+            x.tower(tower, -1);
+            x.tower(tower, 1);
+            x.tower(tower, 1);
+        }
     }
 
     private static void all() {

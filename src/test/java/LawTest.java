@@ -149,6 +149,12 @@ public final class LawTest {
         says("not 1+1=2 or 2*3>6", false);
         says("not 1=1 and not 1=1", false);
         says("not 1=2 and not 1=2", true);
+        for (String rel : new String[] {"1<2", "2<=2", "3>2", "2>=2", "2=2", "1#2"}) {
+            for (String other : new String[] {"1<2", "2<=2", "3>2", "2>=2", "2=2", "1#2"}) {
+                says(rel + " and " + other, true);
+                says("not " + rel + " or not " + other, false);
+            }
+        }
     }
 
     private static void namesOfOver() {

@@ -6,6 +6,7 @@ public final class ReadingTest {
         counts();
         sense();
         places();
+        rowsOneBehindTheOther();
         many();
         firstReading();
         stale();
@@ -95,6 +96,41 @@ public final class ReadingTest {
         x.sunday();
         D.due("readings(true) of nothing", x.readings(true), 1);
         reads(x, true);
+    }
+
+    /** What one row leaves behind must not be seen by the next. */
+    private static void rowsOneBehindTheOther() {
+        D.about("promise 24, row behind row");
+        BellTongue x = bells(3);
+        word(x, 0, 0, 0);
+        word(x, 1, 0, 0, 0);
+        word(x, 2, 0, 0, 0, 0);
+        word(x, 3, 0, 1);
+        word(x, 1, 0, 1, 2);
+        D.rule(x, "follows place<3 or kind#next; begins kind<3;");
+        int[][] rows = {{0, 0, 0, 0, 0}, {0}, {0, 0, 0, 1}, {0, 1, 2}, {1, 2}, {0, 0, 2}, {0, 0}};
+        int[] want = {count(5), 1, 4, 1, 1, 0, 2};
+        for (int i = 0; i < rows.length; i++) {
+            ring(x, rows[i]);
+            D.due("readings(true) of row " + i, x.readings(true), want[i]);
+            x.sunday();
+        }
+    }
+
+    /** Ways to part n in words of 1, 2, 3, of which from the third on no two are alike. */
+    private static int count(int n) {
+        return parts(n, 0, 0);
+    }
+
+    private static int parts(int n, int words, int last) {
+        if (n == 0) {
+            return 1;
+        }
+        int sum = 0;
+        for (int k = 1; k <= 3 && k <= n; k++) {
+            sum += words < 3 || k != last ? parts(n - k, words + 1, k) : 0;
+        }
+        return sum;
     }
 
     private static void places() {
@@ -316,6 +352,26 @@ public final class ReadingTest {
         odds(x, 7, 5, 1, 10);
         ring(x, 0, 0, 0);
         odds(x, 7, 5, 0, 1);
+        x = bells(4);
+        word(x, 0, 0, 0, 1, 2, 3);
+        word(x, 0, 0, 0, 1, 0, 1);
+        word(x, 0, 0, 0, 1);
+        word(x, 0, 0, 1, 0, 1, 0);
+        ring(x, 0, 1);
+        // by 10000 at p 1: 81; 3 * 81; 8100; 81
+        odds(x, 0, 1, 1, 105);
+        odds(x, 1, 1, 1, 35);
+        odds(x, 2, 1, 20, 21);
+        odds(x, 3, 1, 1, 105);
+        ring(x, 2);
+        odds(x, 0, 1, 1, 1);
+        ring(x, 3);
+        odds(x, 0, 4, 1, 1);
+        odds(x, 1, 4, 0, 1);
+        x.sunday();
+        ring(x, 0, 1, 0, 1);
+        odds(x, 1, 9, 1, 1);
+        odds(x, 0, 9, 0, 1);
     }
 
     private static void nearest() {

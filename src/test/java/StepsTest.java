@@ -305,6 +305,16 @@ public final class StepsTest {
         playedAs("word 0 means 0:0;".repeat(10), 9);
         playedAs("ring 0;".repeat(24), -1);
         playedAs("word 0 means 0:0 0 0 0;" + "speak 1;".repeat(7), 7);
+        BellTongue y = threeBells();
+        D.due("text()", Due.read(y, "begins 1=0; word 1 means 2:0 1 2 0; word 3 means 4:2 1 0;"
+                + "word 0 means 0:0; ring 0; sunday;"), 0);
+        y.by(0);
+        D.due("played(0)", y.played(0), -1);
+        D.due("book(0, 3): with sense", y.book(0, 3), 0);
+        int[] row = {1, 2, 4, 9, 0, 1, 2, 0, 3, 4, 3, 9, 2, 1, 0, -1};
+        for (int i = 0; i < 16; i++) {
+            D.due("ofWord(" + i / 8 + ", " + i % 8 + ")", y.ofWord(i / 8, i % 8), row[i]);
+        }
         BellTongue x = threeBells();
         x.hands(2);
         Due.read(x, "ring 0; ring 2; ring 0;");
@@ -380,8 +390,27 @@ public final class StepsTest {
         D.due("centuries(0, 5)", x.centuries(0, 5), 1);
         D.due("rung(-1)", x.rung(-1), 0);
         D.due("book(0, 1)", x.book(0, 1), 0);
+        // 9999 * 2 + 101 is 20099: 4, an HOUR: with its own, three draws
+        int draws = 20099;
+        for (int i = 0; i < 3; i++) {
+            draws = (draws * 313 + 199) % 30341;
+        }
+        D.due("centuries(9999, 1)", x.centuries(9999, 1), 2);
+        D.due("is(4)", x.is(4), draws);
+        // 1 * 2 + 101 is 103: 3, an HOUR, too
+        D.due("centuries(1, 1)", x.centuries(1, 1), 3);
+        draws = (103 * 313 + 199) % 30341;
+        D.due("is(0)", x.is(0), draws % 10);
         D.due("centuries(9999, 40)", x.centuries(9999, 40) >= 1, true);
-        D.due("about(4)", x.about(4), 2);
+        D.due("about(4)", x.about(4), 4);
+        // a SUNDAY has its sense
+        x.hands(9);
+        D.rule(x, "begins 1=0;");
+        x.sunday();
+        D.due("centuries(0, 3)", x.centuries(0, 3) >= 1, true);
+        int last = x.book(-1, 0) - 1;
+        D.due("book: RUNG", x.book(last, 1), 4);
+        D.due("book: readings with sense", x.book(last, 3), 0);
     }
 
     private static void centuriesAtTheEnd() {

@@ -9,6 +9,7 @@ public final class TextTest {
         clauses();
         tokens();
         asks();
+        full();
         numbers();
         open();
         least();
@@ -38,6 +39,23 @@ public final class TextTest {
         D.due("end(MAX)", x.end(Integer.MAX_VALUE), -1);
         D.due("end(7)", x.end(7), 7);
         D.due("feed", x.feed(1, 2, 3, 4, 5), 27);
+        // bytes that were taken off don't count
+        Due.lay(x, "ring 12;");
+        x.end(6);
+        D.due("text()", x.text(), -1);
+        D.due("fault(1)", x.fault(1), 6);
+        Due.lay(x, "over 1<=1;");
+        x.end(8);
+        D.due("text()", x.text(), -1);
+        D.due("fault(1)", x.fault(1), 8);
+        Due.lay(x, "over 1<=1;");
+        x.end(7);
+        D.due("text()", x.text(), -1);
+        D.due("fault(1)", x.fault(1), 7);
+        Due.lay(x, "over loudest");
+        x.end(9);
+        D.due("text()", x.text(), -1);
+        D.due("fault(1)", x.fault(1), 9);
         // "sunday;sunday;" with all of its bytes, and the end of the old tape taken off
         D.due("end(0)", x.end(0), 0);
         D.due("feed", x.feed(0x73756E64, 0x61793B73, 0x756E6461, 0x793B0000, -1), 20);
@@ -53,6 +71,7 @@ public final class TextTest {
         D.due("text() of nothing", x.text(), 0);
         D.due("played(0)", x.played(0), -1);
         D.due("text() of blanks", Due.read(x, " \n \n"), 1);
+        D.due("text() with a fault far behind", Due.read(x, "sunday; over 1=1; ring 6;"), -1);
         Due.lay(x, "sunday");
         D.due("text() with a fault", x.text(), -1);
         D.due("about(6): empty then", x.about(6), 0);
@@ -66,6 +85,20 @@ public final class TextTest {
         D.due("about(2)", x.about(2), 4);
         D.due("played(2)", x.played(2), -1);
         D.due("played(3)", x.played(3), 0);
+        // nothing is left of a text with a fault, nor of one that an image forgot
+        BellTongue y = new BellTongue();
+        Due.read(y, "over 1=0; sunday; sunday; begins 1=0; ring 6;");
+        D.due("text()", Due.read(y, "ring 0;"), 0);
+        D.due("played(0)", y.played(0), 0);
+        y.bell(9, 1, 1);
+        y.word(0, -1, -1, -1, 0, 0);
+        y.by(0);
+        D.due("ring(0)", y.ring(0), 1);
+        D.due("readings(true)", y.readings(true), 1);
+        Due.read(y, "word 1 means 1:0 0 0 0 0;");
+        D.due("text()", Due.read(y, "word 1 means 1:0; hour 1;"), 1);
+        D.due("played(1)", y.played(1), -1);
+        D.due("ofWord(1, 2)", y.ofWord(1, 2), 1);
     }
 
     private static void faults() {
@@ -95,6 +128,7 @@ public final class TextTest {
         D.faulty("bell 10 pitch 0 men 1;", 2, 5);
         D.faulty("bell 1 pitch 10 men 1;", 2, "10");
         D.faulty("bell 1 pitch 1 men 0;", 2, "0");
+        D.faulty("bell 1 pitch 1 men 10;", 2, "10");
         D.faulty("word 4 means 0:0;", 2, "4");
         D.faulty("word 0 means 100:0;", 2, "100");
         D.faulty("word 0 means 1:6;", 2, "6");
@@ -161,6 +195,19 @@ public final class TextTest {
         D.faulty("over strokesx=1;", 1, "strokesx");
         D.faulty("over stroke=1;", 1, "stroke");
         D.faulty("over Loud=1;", 1, "Loud");
+        // all letters make one token
+        for (char c = 'a'; c <= 'z'; c++) {
+            D.faulty("sunday" + c + ";", 1, 0);
+            D.faulty("sunday" + Character.toUpperCase(c) + ";", 1, 0);
+        }
+        for (char c : "`{@[/:09".toCharArray()) {
+            D.faulty("sunday" + c + ";", 1, 6);
+        }
+        for (int d = 0; d <= 9; d++) {
+            D.faulty("over 1" + d + "234=1;", 2, 5);
+        }
+        D.faulty("over over=1;", 1, 5);
+        D.faulty("over abcdefgh=1;", 1, "abcdefgh");
     }
 
     private static void asks() {
@@ -219,6 +266,29 @@ public final class TextTest {
             D.right("follows " + name + "=1;");
             D.faulty("begins " + name + "=1;", 5, name);
         }
+    }
+
+    /** As many bytes and TOKENS as there may be. */
+    private static void full() {
+        D.about("II, 300 bytes");
+        String full = "over 1" + "+1".repeat(145) + "=1;";
+        D.right(full + " ".repeat(300 - full.length()));
+        String law = "over 1" + "+1".repeat(145) + "=10";
+        D.faulty(law, 1, law.length());
+        D.faulty(" ".repeat(299) + ";", 1, 299);
+        D.faulty("over 1" + "+1".repeat(147), 1, 300);
+        D.faulty(";".repeat(300), 1, 0);
+        // the most tokens: 300 bytes, and all but one of the name's and its blank
+        String tokens = "over(1)" + "+1".repeat(143) + "<1=1;";
+        D.faulty(tokens, 1, tokens.lastIndexOf("="));
+        BellTongue x = new BellTongue();
+        x.bell(1, 1, 1);
+        D.rule(x, "over(1)" + "+1".repeat(143) + "=144 ;");
+        D.due("ofBell(0, 3)", x.ofBell(0, 3), 1);
+        Due.read(x, "(".repeat(300));
+        D.due("fault(1)", x.fault(1), 0);
+        D.rule(x, "over 1" + "+1".repeat(144) + "#146;");
+        D.due("ofBell(0, 3)", x.ofBell(0, 3), 1);
     }
 
     private static void numbers() {

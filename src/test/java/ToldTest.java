@@ -190,6 +190,15 @@ public final class ToldTest {
         D.due("newBell(-1)", x.newBell(-1), -1);
         x.bell(1, 9, 1);
         D.due("farthest()", x.farthest(), 2);
+        BellTongue y = new BellTongue();
+        y.bell(1, 9, 1);
+        D.due("farthest() at 0", y.farthest(), 9);
+        for (int p = 1; p < 9; p += 2) {
+            y.bell(1, p, 1);
+        }
+        D.due("farthest()", y.farthest(), 1);
+        D.due("newBell(1)", y.newBell(1), 0);
+        D.due("newBell(2)", y.newBell(2), -1);
         D.due("about(0)", x.about(0), 3);
     }
 

@@ -36,6 +36,10 @@ public final class WordsTest {
         word(x, 0, 0, 0);
         word(x, 0, 99, 0, 1);
         D.due("shortest(7): 1 doesn't get over", x.shortest(7), 2);
+        BellTongue one = new BellTongue();
+        one.bell(9, 1, 1);
+        word(one, 0, 5, 0);
+        D.due("shortest(5) of one word", one.shortest(5), 0);
         D.due("shortest(0)", x.shortest(0), 4);
         D.due("shortest(99)", x.shortest(99), -1);
         D.due("shortest(8)", x.shortest(8), -1);
@@ -297,6 +301,35 @@ public final class WordsTest {
         }
         D.due("lies(false)", x.lies(false), 2);
         D.due("lies(true): 0 1 2 0", x.lies(true), 4);
+        BellTongue y = new BellTongue();
+        y.bell(1, 1, 1);
+        y.bell(1, 2, 1);
+        y.tower(0, 0);
+        for (int i = 0; i < 5; i++) {
+            y.tower(1, 1);
+        }
+        y.tower(1, 0);
+        D.due("lies(true): far behind", y.lies(true), 1);
+        y.tower(0, -1);
+        D.due("lies(true): with none", y.lies(true), 0);
+        D.due("lies(false): the one has none", y.lies(false), 0);
+        y.tower(1, -1);
+        y.tower(1, 0);
+        for (int i = 0; i < 5; i++) {
+            y.tower(0, 1);
+        }
+        y.tower(0, 0);
+        D.due("lies(true): far behind", y.lies(true), 1);
+        y.tower(1, 0);
+        D.due("lies(true): the row is over", y.lies(true), 1);
+        y.tower(0, -1);
+        y.tower(0, 0);
+        D.due("lies(false): the one ends sooner", y.lies(false), 1);
+        y.tower(0, 0);
+        y.tower(0, -1);
+        y.tower(0, 0);
+        D.due("lies(false): the one ends sooner now", y.lies(false), 1);
+        D.due("lies(true)", y.lies(true), 1);
         D.due("tower(1, -1)", x.tower(1, -1), 0);
         for (int b : one) {
             x.tower(1, b);
