@@ -32,7 +32,8 @@ public final class FuzzTest {
 
     private boolean run(int run) {
         int flavour = random.nextInt(4);
-        for (int i = 0; i < 512 && !wrong; ) {
+        int made = random.nextInt(5) == 0 ? 0 : prelude();
+        for (int i = made; i < 512 && !wrong; ) {
             i += once(flavour);
         }
         if (wrong) {
@@ -42,6 +43,30 @@ public final class FuzzTest {
             }
         }
         return !wrong;
+    }
+
+    /** Few BELLS and many WORDS of them, so that there is much to be read. */
+    private int prelude() {
+        int bells = 1 + random.nextInt(3);
+        for (int b = 0; b < bells; b++) {
+            int loud = 4 + random.nextInt(6);
+            due("bell(" + loud + ", " + 3 * b + ", 1)", program.bell(loud, 3 * b, 1),
+                    model.bell(loud, 3 * b, 1));
+        }
+        int words = 2 + random.nextInt(9);
+        for (int w = 0; w < words; w++) {
+            int[] row = {random.nextInt(bells), -1, -1, -1};
+            for (int i = 1; i < 4 && random.nextInt(5) < 2; i++) {
+                row[i] = random.nextInt(bells);
+            }
+            int kind = random.nextInt(4);
+            int means = random.nextInt(6);
+            due("word(" + row[0] + ", " + row[1] + ", " + row[2] + ", " + row[3] + ", " + kind
+                    + ", " + means + ")",
+                    program.word(row[0], row[1], row[2], row[3], kind, means),
+                    model.word(row[0], row[1], row[2], row[3], kind, means));
+        }
+        return bells + words;
     }
 
     private void due(String call, long got, long want) {
@@ -135,7 +160,7 @@ public final class FuzzTest {
                 break;
             }
             case 11:
-                if (flavour == 2) {
+                if (flavour == 2 && random.nextInt(5) == 0) {
                     return manyHours();
                 }
                 due("undo()", program.undo(), model.undo());
@@ -216,13 +241,14 @@ public final class FuzzTest {
                         model.line(one, other));
                 break;
             }
-            default: {
-                int tower = some(0, 1);
-                int bell = random.nextInt(16) == 0 ? -1 : aBell();
-                due("tower(" + tower + ", " + bell + ")", program.tower(tower, bell),
-                        model.tower(tower, bell));
+            default:
+                for (int i = random.nextInt(6); i >= 0; i--) {
+                    int tower = some(0, 1);
+                    int bell = random.nextInt(40) == 0 ? -1 : aBell();
+                    due("tower(" + tower + ", " + bell + ")", program.tower(tower, bell),
+                            model.tower(tower, bell));
+                }
                 break;
-            }
         }
     }
 
@@ -259,7 +285,19 @@ public final class FuzzTest {
     }
 
     private void ask() {
-        switch (random.nextInt(26)) {
+        switch (random.nextInt(29)) {
+            case 26: case 27: {
+                boolean s = random.nextInt(4) != 0;
+                int i = some(-1, Math.max(0, model.reading(s, -1)));
+                due("reading(" + s + ", " + i + ")", program.reading(s, i), model.reading(s, i));
+                break;
+            }
+            case 28: {
+                int i = some(-1, Math.max(0, model.book(-1, 0)));
+                int what = some(0, 3);
+                due("book(" + i + ", " + what + ")", program.book(i, what), model.book(i, what));
+                break;
+            }
             case 0: {
                 int b = aBell();
                 int what = some(0, 3);
@@ -280,12 +318,12 @@ public final class FuzzTest {
                 break;
             }
             case 3: {
-                int i = some(-1, 24);
+                int i = some(-1, Math.max(0, model.rung(-1)));
                 due("rung(" + i + ")", program.rung(i), model.rung(i));
                 break;
             }
             case 4: {
-                int i = some(-1, 10);
+                int i = some(-1, Math.max(0, model.heard(-1)));
                 due("heard(" + i + ")", program.heard(i), model.heard(i));
                 break;
             }

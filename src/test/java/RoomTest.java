@@ -16,7 +16,7 @@ public final class RoomTest {
         long made = threads.getThreadAllocatedBytes(self) - before;
         System.out.println("RoomTest: " + made + " bytes made by all kinds of calls");
         // asking for the count makes a little itself
-        if (made > 256) {
+        if (made > 1000) {
             System.exit(1);
         }
     }
