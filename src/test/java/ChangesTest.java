@@ -31,7 +31,7 @@ public final class ChangesTest {
             D.due(call, x.changes(w[0], w[1], w[2], false), -1);
             D.due(call, x.changes(w[0], w[1], w[2], true), -1);
         }
-        allRows(x);
+        allRows();
         D.close("ChangesTest");
     }
 
@@ -42,9 +42,14 @@ public final class ChangesTest {
     }
 
     /** Every row of five is left and come to by as many changes; none takes more than five. */
-    private static void allRows(BellTongue x) {
+    private static void allRows() {
+        BellTongue x = new BellTongue();
         int rows = 0;
         for (int row = 1234; row <= 43210; row++) {
+            if (row % 100 == 0) {
+                // an object is used for 512 calls at most
+                x = new BellTongue();
+            }
             int many = x.changes(5, row, 1234, false);
             if (many < 0) {
                 continue;

@@ -125,7 +125,9 @@ final class EdgesOfChanges {
 
     @Holds(promise = 46, says = "BACK: all is so again.")
     static void allIsSoAgain(Due d) {
-        BellTongue x = Scene.words(2);
+        BellTongue x = Scene.bells(9, 9);
+        Scene.word(x, 0, 0, 0);
+        Scene.word(x, 2, 1, 0);
         Due.read(x, "follows 1=0; over 1=1;");
         x.by(0);
         x.hands(7);
@@ -133,23 +135,29 @@ final class EdgesOfChanges {
         x.hears(0, 1);
         x.line(0, 1);
         x.tower(0, 0);
+        x.tower(1, 1);
+        x.tower(1, 0);
         Scene.ring(x, 0, 0);
         x.sunday();
         x.ring(0);
         x.image();
         String before = Scene.state(x);
         x.bell(1, 1, 1);
-        Scene.word(x, 0, 0, 0);
+        Scene.word(x, 3, 0, 0);
         Due.read(x, "over 1=0;");
         x.by(1);
         x.hands(0);
         x.weight(1, 99);
         x.weight(0, 0);
         x.hears(1, 0);
+        x.line(-1, 0);
         x.line(1, 0);
-        x.line(1, 1);
-        x.tower(0, -1);
-        x.tower(1, 0);
+        x.line(2, 2);
+        for (int tower = 0; tower < 2; tower++) {
+            x.tower(tower, -1);
+            x.tower(tower, 1);
+            x.tower(tower, 1);
+        }
         x.centuries(1, 40);
         for (int i = 0; i < 21; i++) {
             x.sunday();
@@ -158,14 +166,92 @@ final class EdgesOfChanges {
         d.due("all is so again", Scene.state(x).equals(before), true);
         d.due("weights", x.meant(1, 5, true) * 100 + x.meant(1, 5, false), 403);
         d.due("what is heard as what", x.settles(0, 0) * 10 + x.settles(1, 0), 21);
-        d.due("LINES", x.pairs() * 10 + x.whose(), 10);
-        d.due("towers", x.lies(false) * 10 + x.lies(true), 0);
+        d.due("LINES", x.pairs() * 10 + x.whose(), 40);
+        d.due("towers: 0 and 1 0", x.lies(false), 0);
+        x.tower(0, 1);
+        x.tower(0, 0);
+        d.due("towers: 0 1 0 and 1 0", x.lies(true), 2);
         d.due("played(1): no such TEXT", x.played(1), -2);
         d.due("THE TEXT rules", x.ofBell(0, 3), 1);
         // the STEPS that could be taken back can be
         d.due("undo()", x.undo(), 3);
         d.due("undo()", x.undo(), 2);
         d.due("rung(-1)", x.rung(-1), 2);
+    }
+
+    @Holds(promise = 46, says = "BACK: all is so again.")
+    static void stepsAreSoAgain(Due d) {
+        BellTongue x = new BellTongue();
+        x.hour(31);
+        x.image();
+        x.undo();
+        x.hour(60);
+        d.due("back()", x.back(), 31);
+        for (int i = 29; i >= 0; i--) {
+            d.due("undo()", x.undo(), i);
+            d.due("is(2)", x.is(2), i + 1);
+        }
+        d.due("undo()", x.undo(), -1);
+    }
+
+    @Holds(promise = 46, says = "BACK: all is so again.")
+    static void fullRowsAreSoAgain(Due d) {
+        BellTongue x = Scene.bells(9, 9, 9, 9, 9, 9);
+        for (int i = 0; i < 10; i++) {
+            Scene.word(x, i % 4, i, i % 6);
+        }
+        for (int i = 0; i < 12; i++) {
+            x.tower(0, i % 6);
+            x.tower(1, i % 6);
+            x.line(i % 4, (i + 1) % 4);
+        }
+        for (int i = 0; i < 10; i++) {
+            x.weight(i, 90 + i);
+            x.hears(i, 9 - i);
+        }
+        x.image();
+        for (int tower = 0; tower < 2; tower++) {
+            x.tower(tower, -1);
+            for (int i = 0; i < 12; i++) {
+                x.tower(tower, tower);
+            }
+        }
+        x.line(-1, 0);
+        for (int i = 0; i < 8; i++) {
+            x.line(i, i);
+        }
+        for (int i = 0; i < 10; i++) {
+            x.weight(i, 1);
+            x.hears(i, 0);
+        }
+        x.back();
+        d.due("lies(false)", x.lies(false), -1);
+        d.due("lies(true)", x.lies(true), 12);
+        d.due("about(5)", x.about(5), 8);
+        d.due("pairs()", x.pairs(), 1 << 1 | 1 << 6 | 1 << 11 | 1 << 12);
+        x.ring(5);
+        // 5 is WORD 5 alone, of weight 95
+        d.due("meant(5, 5, false)", x.meant(5, 5, false), 1);
+        x.undo();
+        d.due("meant(9, 5, true): 945 together", x.meant(9, 5, true), 105);
+        d.due("meant(9, 5, false): 99 of them", x.meant(9, 5, false), 11);
+        for (int i = 0; i < 10; i++) {
+            d.due("settles(" + i + ", 2)", x.settles(i, 2), Math.min(i, 9 - i));
+        }
+    }
+
+    @Holds(promise = 46, says = "BACK: all is so again.")
+    static void otherWordsBehindBack(Due d) {
+        BellTongue x = Scene.bells(9);
+        Due.read(x, "begins kind=1;");
+        x.by(0);
+        x.ring(0);
+        x.image();
+        Scene.word(x, 0, 0, 0);
+        d.due("readings(true)", x.readings(true), 0);
+        x.back();
+        Scene.word(x, 1, 0, 0);
+        d.due("readings(true) of another WORD 0", x.readings(true), 1);
     }
 
     @Holds(promise = 46, says = "BACK to THE IMAGE (it stays): HOUR.")

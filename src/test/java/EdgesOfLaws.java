@@ -55,6 +55,10 @@ final class EdgesOfLaws {
         }
         says(d, "-1<0", true);
         says(d, "0>-1", true);
+        for (String so : new String[] {"1<2", "2<=2", "2>1", "2>=2", "2=2", "1#2"}) {
+            says(d, so + " and 1=1", true);
+            says(d, "not " + so + " or 1=2", false);
+        }
         says(d, "not 1=1", false);
         says(d, "not not 1=1", true);
         says(d, "not not not 1=1", false);
@@ -67,6 +71,8 @@ final class EdgesOfLaws {
         d.faulty("over =1;", 1, 5);
         d.faulty("over 1=1=1;", 1, 8);
         d.faulty("over 1=not 1=1;", 1, 7);
+        d.faulty("over (not 1)=1;", 1, 6);
+        d.faulty("over -not 1=1;", 1, 6);
         d.faulty("over not (1=1);", 1, 11);
         d.faulty("over 1=1 not;", 1, 9);
     }

@@ -108,6 +108,38 @@ final class EdgesOfReadings {
         d.due("readings(true): by place", x.readings(true), 4);
     }
 
+    @Holds(promise = 24, says = "follows of each one and the one behind it:")
+    static void withSenseOfAllLengths(Due d) {
+        BellTongue x = Scene.bells(9);
+        for (int i = 0; i < 10; i++) {
+            Scene.word(x, i % 4, i, new int[1 + i % 4]);
+        }
+        d.rule(x, "follows kind+next+place#4 and meaning-means<5;begins kind#2;");
+        for (int n = 0; n <= 24; n++) {
+            int want = (int) Math.min(1000000, sensible(n, -1, 0, new long[25 * 25 * 11]));
+            d.due("readings(true) of " + n, x.readings(true), want);
+            x.ring(0);
+        }
+    }
+
+    /** WORDS of length 1 + w mod 4 and KIND w mod 4 that mean w; in known each way plus 1. */
+    private static long sensible(int rest, int ahead, int place, long[] known) {
+        int at = (rest * 25 + place) * 11 + ahead + 1;
+        if (rest == 0 || known[at] > 0) {
+            return rest == 0 ? 1 : known[at] - 1;
+        }
+        long sum = 0;
+        for (int w = 0; w < 10; w++) {
+            boolean sense = ahead < 0 ? w % 4 != 2
+                    : ahead % 4 + w % 4 + place != 4 && w - ahead < 5;
+            if (sense && 1 + w % 4 <= rest) {
+                sum += sensible(rest - 1 - w % 4, w, place + 1, known);
+            }
+        }
+        known[at] = sum + 1;
+        return sum;
+    }
+
     @Holds(promise = 24, says = "how many of both (1000000 at most each).")
     static void aMillionAtMost(Due d) {
         BellTongue x = Scene.words(10);

@@ -274,6 +274,19 @@ final class EdgesOfSteps {
                 && by.book(0, 2) == x.book(0, 2) && by.book(0, 3) == x.book(0, 3), true);
     }
 
+    @Holds(promise = 15, says = "as by hand;")
+    static void aPlayedSundayIsAStepWithSense(Due d) {
+        BellTongue x = Scene.words(2);
+        Due.read(x, "begins means=1; ring 0; sunday;");
+        x.by(0);
+        d.due("played(0)", x.played(0), -1);
+        d.due("about(4)", x.about(4), 2);
+        d.due("book(0, 3): one of two", x.book(0, 3), 1);
+        d.due("undo()", x.undo(), 1);
+        d.due("rung(-1)", x.rung(-1), 1);
+        d.due("book(-1, 0)", x.book(-1, 0), 0);
+    }
+
     @Holds(promise = 15, says = {"one that can't be ends it", "its number among all CLAUSES (from 0);",
         "else the number of the CLAUSE that can't be."})
     static void playedTillOneCannotBe(Due d) {
@@ -436,6 +449,10 @@ final class EdgesOfSteps {
         d.due("book(0, 1)", x.book(0, 1), 2);
         d.due("book(0, 3)", x.book(0, 3), 1);
         d.due("is(4)", x.is(4), Scene.turned(107));
+        d.rule(x, "begins 1=0;");
+        x.ring(0);
+        x.centuries(3, 1);
+        d.due("book(1, 3): with sense", x.book(1, 3), 0);
         for (int i = 0; i < 20; i++) {
             x.centuries(3, 1);
         }
@@ -577,6 +594,15 @@ final class EdgesOfSteps {
             d.due("undo()", x.undo(), i);
             nothingDone(d, x, before[i]);
         }
+        // RUNG itself, not how many alone
+        x.bell(9, 5, 1);
+        x.ring(0);
+        x.sunday();
+        x.ring(1);
+        x.undo();
+        x.undo();
+        d.due("rung(0)", x.rung(0), 10);
+        x.undo();
         // what is told stays
         x.ring(0);
         x.hands(3);
@@ -584,7 +610,7 @@ final class EdgesOfSteps {
         x.weight(0, 7);
         x.undo();
         d.due("is(3)", x.is(3), 3);
-        d.due("about(0)", x.about(0), 2);
+        d.due("about(0)", x.about(0), 3);
     }
 
     @Holds(promise = 17, says = "The latest STEP is taken back: how many can be yet.")

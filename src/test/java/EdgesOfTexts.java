@@ -55,6 +55,17 @@ final class EdgesOfTexts {
         Due.lay(x, "ring 1");
         d.due("end(0)", x.end(0), 0);
         d.due("text() of nothing", x.text(), 1);
+        Due.lay(x, "over 1<=1;");
+        d.due("end(7)", x.end(7), 7);
+        x.text();
+        d.due("fault(1): the = is not there", x.fault(1), 7);
+        Due.lay(x, "over 1=12;");
+        x.end(8);
+        Due.add(x, ";");
+        x.text();
+        x.by(2);
+        x.bell(1, 1, 1);
+        d.due("ofBell(0, 3): the 2 is not there", x.ofBell(0, 3), 1);
     }
 
     @Holds(promise = 6, says = "NONE, and nothing is done, if it has not so many, or n is below 0.")
@@ -89,6 +100,37 @@ final class EdgesOfTexts {
         d.due("played(0)", x.played(0), -1);
         d.due("played(3)", x.played(3), -1);
         d.due("is(2)", x.is(2), 1);
+    }
+
+    @Holds(promise = 7, says = "of up to 300 bytes.")
+    static void threeHundredTokens(Due d) {
+        d.faulty(";".repeat(300), 1, 0);
+        d.faulty("over 1" + "+1".repeat(147), 1, 300);
+        d.faulty(" ".repeat(299) + ";", 1, 299);
+        BellTongue x = Scene.bells(1);
+        d.rule(x, "over(1)" + "+1".repeat(144) + "=145" + ";");
+        d.due("ofBell(0, 3) by a law of 300 bytes", x.ofBell(0, 3), 1);
+    }
+
+    @Holds(promise = 7, says = "NONE: it has a FAULT;")
+    static void nothingIsLeftOfAFault(Due d) {
+        BellTongue x = Scene.bells(1);
+        String[] spoilt = {"over not not not not not not not not 1=1 and", "over ((((((((1",
+            "over 1^1^1^1^1^1^1^1^1+", "over --------", "over 1=1 or 2*(3+4*(5",
+            "over 1=1;follows 1=0;begins 1=0;sunday;sunday;$", "over 1" + "+1".repeat(145),
+            "over not 1"};
+        for (String s : spoilt) {
+            for (int i = 0; i < 3; i++) {
+                d.due("text() of " + s, Due.read(x, s), -1);
+            }
+        }
+        d.rule(x, "over ((((((((1))))))))" + "+1".repeat(20) + "=21 and not 1=2;");
+        d.due("ofBell(0, 3)", x.ofBell(0, 3), 1);
+        d.due("played(0)", x.played(0), -1);
+        d.due("book(-1, 0)", x.book(-1, 0), 0);
+        Scene.word(x, 0, 0, 0);
+        Scene.ring(x, 0, 0);
+        d.due("readings(true)", x.readings(true), 1);
     }
 
     @Holds(promise = 7, says = "NONE: it has a FAULT;")

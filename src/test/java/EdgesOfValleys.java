@@ -88,6 +88,8 @@ final class EdgesOfValleys {
         d.due("atWorst(0): by each less, too", x.atWorst(0), 2);
         d.rule(x, "over wind#9;");
         d.due("atWorst(0)", x.atWorst(0), 8);
+        d.rule(x, "over 1=1;");
+        d.due("atWorst(0): 9 is the greatest", x.atWorst(0), 9);
         d.rule(x, "over wind+strokes<6;");
         x.hands(0);
         d.due("atWorst(2): the ones ahead RUNG as well", x.atWorst(2), 2);
@@ -165,8 +167,14 @@ final class EdgesOfValleys {
         d.due("apart(2)", x.apart(2), 0b01101);
         d.due("apart(3)", x.apart(3), 0b01101);
         d.due("apart(4)", x.apart(4), 0b01101);
+        d.due("apart(1), asked again", x.apart(1), 0b11101);
         BellTongue y = Scene.words(10);
         d.due("apart(1) of ten alike", y.apart(1), 1);
+        BellTongue pairs = Scene.bells(9, 9, 9, 9, 9);
+        for (int i = 0; i < 10; i++) {
+            Scene.word(pairs, 0, 0, i % 5, i % 5, i % 5, i % 5);
+        }
+        d.due("apart(4) of five twice", pairs.apart(4), 31);
         BellTongue z = Scene.bells(9, 9, 9, 9, 9, 9);
         for (int i = 0; i < 10; i++) {
             Scene.word(z, 0, 0, i % 5, i / 5, i % 5, i / 5);
