@@ -232,6 +232,9 @@ final class EdgesOfBells {
         for (int i = 0; i < 16; i++) {
             d.due("ofWord(" + i / 4 + ", " + i % 4 + ")", x.ofWord(i / 4, i % 4), want[i / 4][i % 4]);
         }
+        Scene.word(x, 1, 2, 0, 0, 0, 0);
+        Scene.word(x, 1, 2, 1);
+        d.due("ofWord(4, 3): of its own BELLS alone", x.ofWord(4, 3), 1);
         x.hands(0);
         d.due("ofWord(0, 3): whatever HANDS are", x.ofWord(0, 3), 9);
     }

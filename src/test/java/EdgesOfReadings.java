@@ -204,6 +204,16 @@ final class EdgesOfReadings {
         x.ring(1);
         // 0 1 3: the first that reads to the end
         reads(d, x, false, 0, 1, 3);
+        BellTongue y = Scene.bells(9, 9, 9);
+        Scene.word(y, 0, 0, 0);
+        Scene.word(y, 0, 0, 0, 1);
+        d.rule(y, "follows 1=1;");
+        y.ring(0);
+        reads(d, y, true, 0);
+        y.ring(1);
+        // 0 alone could be read, but not what is behind it then
+        reads(d, y, true, 1);
+        reads(d, y, false, 1);
         x.sunday();
         Scene.ringTimes(x, 1, 24);
         d.due("reading(false, -1) of 24", x.reading(false, -1), 24);
@@ -234,6 +244,14 @@ final class EdgesOfReadings {
             d.due("reading(false, " + i + ")", x.reading(false, i), -2);
             d.due("reading(true, " + i + ")", x.reading(true, i), -2);
         }
+        d.rule(x, "follows 1=1;");
+        x.ring(0);
+        d.due("readings(true)", x.readings(true), 1);
+        x.bell(9, 9, 1);
+        x.ring(1);
+        d.due("readings(true): a BELL of no WORD behind it", x.readings(true), 0);
+        d.due("reading(true, -1)", x.reading(true, -1), -2);
+        x.undo();
         d.rule(x, "begins 1=0;");
         d.due("reading(true, -1): none with sense", x.reading(true, -1), -2);
         d.due("reading(true, 0)", x.reading(true, 0), -2);

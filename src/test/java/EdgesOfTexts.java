@@ -131,6 +131,9 @@ final class EdgesOfTexts {
         Scene.word(x, 0, 0, 0);
         Scene.ring(x, 0, 0);
         d.due("readings(true)", x.readings(true), 1);
+        d.due("text()", Due.read(x, "over not 1=1; $"), -1);
+        d.rule(x, "over 1=1;");
+        d.due("ofBell(0, 3): what follows is not its own", x.ofBell(0, 3), 1);
     }
 
     @Holds(promise = 7, says = "NONE: it has a FAULT;")
